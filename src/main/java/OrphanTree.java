@@ -38,8 +38,7 @@ public final class OrphanTree {
     private final Tree copy = new Tree();
     private final Tree saved = new Tree();
     private final History history = new History();
-    private final Input input = new Input();
-    private final SetupReader reader = new SetupReader(input, copy);
+    private final SetupReader reader = new SetupReader();
     private final Output output = new Output();
     private boolean isSaved = false;
 
@@ -47,6 +46,7 @@ public final class OrphanTree {
     }
 
     public int appendInput(int a, int b, int c, int d, int e) {
+        Input input = reader.input;
         if (input.length + BYTES_OF_A_CALL > MOST_INPUT) {
             return -1;
         }
@@ -59,20 +59,24 @@ public final class OrphanTree {
     }
 
     public boolean truncateInput(int length) {
-        if (length < 0 || length > input.length) {
+        if (length < 0 || length > reader.input.length) {
             return false;
         }
-        input.length = length;
+        reader.input.length = length;
         return true;
     }
 
     public int loadTree() {
-        boolean loaded = reader.readSetup();
-        input.length = 0;
-        if (!loaded) {
+        reader.begin();
+        boolean more = true;
+        for (int i = 0; i < MOST_INPUT && more; i++) {
+            more = reader.takeStatement();
+        }
+        reader.input.length = 0;
+        if (reader.error != NO_ERROR) {
             return -1;
         }
-        tree.take(copy);
+        tree.take(reader.tree);
         history.size = 0;
         isSaved = false;
         output.length = 0;
@@ -549,8 +553,8 @@ public final class OrphanTree {
         Proc p = named(process);
         int heaviest = NONE;
         int most = NONE;
-        for (Proc child = tree.childBehind(p, NONE); child != null; child = tree.childBehind(p, child.number)) {
-            int weight = tree.countBelow(child, RUNNING);
+        for (Proc child : tree.procs) {
+            int weight = child.isRunningChildOf(p) ? tree.countBelow(child, RUNNING) : NONE;
             if (weight > most) {
                 heaviest = child.number;
                 most = weight;
@@ -666,16 +670,16 @@ public final class OrphanTree {
 
     private static void putBranch(Output output, Tree tree, Proc p, int level) {
         output.putNumber(p.number);
-        Proc child = level < MOST_PROCESSES ? tree.childBehind(p, NONE) : null;
-        if (child == null) {
+        if (p.children == 0 || level >= MOST_PROCESSES) {
             return;
         }
         char sign = '(';
-        while (child != null) {
-            output.putSign(sign);
-            putBranch(output, tree, child, level + 1);
-            child = tree.childBehind(p, child.number);
-            sign = ' ';
+        for (Proc child : tree.procs) {
+            if (child.isRunningChildOf(p)) {
+                output.putSign(sign);
+                putBranch(output, tree, child, level + 1);
+                sign = ' ';
+            }
         }
         output.putSign(')');
     }
@@ -1334,7 +1338,7 @@ public final class OrphanTree {
 
         void putZombies(Tree tree, Proc p) {
             Proc zombie = tree.zombieBehind(p, NONE);
-            while (zombie != null) {
+            for (int i = 0; i < MOST_PROCESSES && zombie != null; i++) {
                 putComma();
                 putNumber(zombie.number);
                 putSign(':');
@@ -1359,8 +1363,8 @@ public final class OrphanTree {
         private static final int BAD = 4;
         private static final int MOST_DIGITS = 2;
 
-        private final Input input;
-        private final Tree tree;
+        private final Input input = new Input();
+        private final Tree tree = new Tree();
         private int error = NO_ERROR;
         private int errorStart = NONE;
         private int kind = END;
@@ -1371,13 +1375,7 @@ public final class OrphanTree {
         private boolean deepTold = false;
         private boolean rootTold = false;
 
-        SetupReader(Input input, Tree tree) {
-            this.input = input;
-            this.tree = tree;
-        }
-
-        /** Builds the tree that the text tells; an error leaves it half built. */
-        boolean readSetup() {
+        void begin() {
             tree.reset();
             error = NO_ERROR;
             errorStart = NONE;
@@ -1385,17 +1383,17 @@ public final class OrphanTree {
             deepTold = false;
             rootTold = false;
             end = 0;
-            advance();
-            for (int i = 0; i < MOST_INPUT && kind != END && error == NO_ERROR; i++) {
-                if (takeStatement()) {
-                    advance();
-                }
-            }
-            return error == NO_ERROR;
         }
 
-        /** Begins at the first word and ends at the semicolon, as all that take a statement. */
-        private boolean takeStatement() {
+        /**
+         * Puts the next statement into the tree and ends at its semicolon; false behind the last one or at an error,
+         * which leaves the tree half built.
+         */
+        boolean takeStatement() {
+            advance();
+            if (kind == END) {
+                return false;
+            }
             if (isWord("order")) {
                 return takeOrder();
             }

@@ -232,6 +232,14 @@ public final class PromiseTest {
         is(x.process(2, 0), 1);
         is(load(x, processes(24)), 25);
         is(x.process(24, 0), 3);
+        String once = "order old;deep 3;root 8 1;process 0 9 0 0;heir 1 0;refuse 1 3;will 1 2 0;";
+        is(load(x, once), 2);
+        is(load(x, once), 2);
+        is(x.process(0, 3), 1);
+        is(load(x, "process 0 9 0 0;"), 2);
+        is(x.process(1, 8), -1);
+        is(x.process(1, 11), 0);
+        is(x.process(1, 14), 0);
     }
 
     /** So many processes, the supervisors filled one behind the other. */
@@ -281,6 +289,11 @@ public final class PromiseTest {
         refused("deep\u0000 1;", 1, 4);
         refused("Deep 1;", 1, 0);
         refused("deeper 1;", 1, 0);
+        refused("beep 1;", 1, 0);
+        refused("arder;", 1, 0);
+        refused("ordera;", 1, 0);
+        refused("orderz;", 1, 0);
+        refused("order wear;", 1, 6);
         refused("dee 1;", 1, 0);
         refused("5;", 1, 0);
         refused("root 1;", 1, 6);
@@ -1119,6 +1132,7 @@ public final class PromiseTest {
         fails(ARGUMENT, () -> x.roomiest(-1));
         x.exit(4, 0);
         is(x.roomiest(0), 3);
+        is(tree("process 0 1 0 0;").roomiest(0), 1);
         is(tree("process 0 0 0 0;").roomiest(0), -1);
         is(new OrphanTree().roomiest(9), -1);
     }
@@ -1182,9 +1196,18 @@ public final class PromiseTest {
         fails(ELEMENT, () -> x.exited(2));
         fails(ELEMENT, () -> x.exited(-1));
         fails(ELEMENT, () -> x.exited(Integer.MAX_VALUE));
+        x.saveState();
         x.undo();
         x.undo();
         fails(ELEMENT, () -> x.exited(1));
+        x.undo();
+        x.exit(2, 0);
+        x.exit(4, 0);
+        is(x.exited(0), 2);
+        is(x.exited(1), 4);
+        x.restoreState();
+        is(x.exited(0), 4);
+        is(x.exited(1), 2);
     }
 
     static void promise42() {
@@ -1261,6 +1284,8 @@ public final class PromiseTest {
         is(crowded.exchange(5, 1), 3);
         is(shape(crowded), "0(2(3(1(4))) 5)");
         is(crowded.process(3, 3), 1);
+        is(crowded.exchange(1, 5), 3);
+        is(shape(crowded), "0(1(4) 2(3(5)))");
     }
 
     static void promise46() {
@@ -1419,6 +1444,12 @@ public final class PromiseTest {
         x.setCapacity(1, 0);
         is(x.relieve(1), 1);
         is(x.process(2, 0), 0);
+        OrphanTree last = tree("order;process 0 9 0 0;");
+        fillUp(last, 39);
+        is(last.spawn(1, 0, 0, 0), 39);
+        last.setCapacity(1, 0);
+        is(last.relieve(1), 1);
+        is(last.process(39, 0), 0);
         is(x.count(6), 1);
         is(x.count(9), 5);
         fails(STATE, () -> x.relieve(0));
@@ -1593,9 +1624,11 @@ public final class PromiseTest {
         x.exit(3, 1);
         x.readAll(1);
         x.refuse(1, 2);
+        is(x.process(6, 12), 2);
         x.kill(1, 3);
         is(x.undo(), 4);
         is(x.undo(), 3);
+        is(x.process(6, 12), 1);
         is(x.undo(), 2);
         is(x.count(2), 2);
         is(x.undo(), 1);
