@@ -1,119 +1,20 @@
-import java.nio.ByteBuffer;
-import java.nio.charset.StandardCharsets;
-import java.util.Arrays;
-import java.util.NoSuchElementException;
-
 /** For each promise of the document the answers that are due, worked out by hand. */
-public final class PromiseTest {
-    private static final Class<?> BOUNDS = IndexOutOfBoundsException.class;
-    private static final Class<?> ARGUMENT = IllegalArgumentException.class;
-    private static final Class<?> STATE = IllegalStateException.class;
-    private static final Class<?> ELEMENT = NoSuchElementException.class;
-
+public final class PromiseTest extends Checks {
     /** 0 over 1 and 5, 1 over 2 and 3, 3 over 4. */
     private static final String FAMILY = "process 0 2 1 0;process 1 1 1 0;process 1 3 2 1;process 3 0 2 0;"
         + "process 0 1 2 0;heir 2 3;duty 0 2;duty 1 4;";
     /** A chain 0, 1, 2, 3 and the childless 4 under 1. */
     private static final String CHAIN = "process 0 3 1 0;process 1 2 2 0;process 2 1 3 0;process 1 0 4 0;";
 
-    private static int promise = 0;
-    private static int passed = 0;
-    private static int failed = 0;
-
     private PromiseTest() {
     }
 
-    interface Call {
-        Object answer();
-    }
-
     public static void main(String[] args) throws ReflectiveOperationException {
-        for (promise = 1; promise <= 65; promise++) {
+        for (int promise = 1; promise <= 65; promise++) {
+            subject = "promise " + promise;
             PromiseTest.class.getDeclaredMethod("promise" + promise).invoke(null);
         }
-        System.out.println(passed + " answers of PromiseTest are as due, " + failed + " are not");
-        if (failed != 0) {
-            System.exit(1);
-        }
-    }
-
-    private static void is(Object got, Object due) {
-        if (got.equals(due)) {
-            passed++;
-            return;
-        }
-        failed++;
-        String line = Arrays.stream(new Throwable().getStackTrace()).filter(e -> e.getClassName().equals("PromiseTest"))
-            .map(e -> "" + e.getLineNumber()).reduce("", (a, b) -> a + " " + b);
-        System.out.println("promise " + promise + ", lines" + line + ": " + got + ", due is " + due);
-    }
-
-    private static void fails(Class<?> due, Call call) {
-        Object got;
-        try {
-            got = call.answer();
-        } catch (RuntimeException e) {
-            got = e.getClass();
-        }
-        is(got, due);
-    }
-
-    /** Puts a text into the buffer, whatever stands there. */
-    private static void write(OrphanTree x, String text) {
-        x.truncateInput(0);
-        byte[] bytes = text.getBytes(StandardCharsets.ISO_8859_1);
-        ByteBuffer words = ByteBuffer.wrap(Arrays.copyOf(bytes, (bytes.length + 19) / 20 * 20));
-        while (words.hasRemaining()) {
-            x.appendInput(words.getInt(), words.getInt(), words.getInt(), words.getInt(), words.getInt());
-        }
-        x.truncateInput(bytes.length);
-    }
-
-    private static int load(OrphanTree x, String text) {
-        write(x, text);
-        return x.loadTree();
-    }
-
-    private static OrphanTree tree(String text) {
-        OrphanTree x = new OrphanTree();
-        is(load(x, text) > 0, true);
-        return x;
-    }
-
-    private static void refused(String text, int code, int offset) {
-        OrphanTree x = new OrphanTree();
-        is(load(x, text), -1);
-        is(x.errorCode(), code);
-        is(x.errorOffset(), offset);
-    }
-
-    private static String printed(OrphanTree x, int process, int what) {
-        int length = x.print(process, what);
-        StringBuilder text = new StringBuilder();
-        for (int i = 0; i < length; i++) {
-            text.append((char) x.outputByte(i));
-        }
-        is(x.outputByte(length), -1);
-        return text.toString();
-    }
-
-    private static String shape(OrphanTree x) {
-        return printed(x, 0, 2);
-    }
-
-    private static void supervisors(OrphanTree x, int... due) {
-        int[] got = new int[due.length];
-        for (int i = 0; i < due.length; i++) {
-            got[i] = x.process(i, 0);
-        }
-        is(Arrays.toString(got), Arrays.toString(due));
-    }
-
-    private static void fillUp(OrphanTree x, int number) {
-        while (x.count(0) < number) {
-            int p = x.spawn(0, 0, 0, 0);
-            x.exit(p, 0);
-        }
+        tell("PromiseTest");
     }
 
     static void promise1() {
@@ -240,15 +141,6 @@ public final class PromiseTest {
         is(x.process(1, 8), -1);
         is(x.process(1, 11), 0);
         is(x.process(1, 14), 0);
-    }
-
-    /** So many processes, the supervisors filled one behind the other. */
-    private static String processes(int number) {
-        StringBuilder text = new StringBuilder();
-        for (int i = 0; i < number; i++) {
-            text.append("process ").append(i < 9 ? 0 : i < 18 ? 1 : 3).append(" 9 0 0;");
-        }
-        return text.toString();
     }
 
     static void promise5() {
