@@ -152,6 +152,30 @@ abstract class Checks {
         is(Arrays.toString(got), Arrays.toString(due));
     }
 
+    /** All that can be asked without a change, but for the forecasts, which are worked out from this. */
+    static String asked(OrphanTree x) {
+        StringBuilder all = new StringBuilder();
+        for (int what = 0; what <= 10; what++) {
+            all.append(x.count(what)).append(' ');
+        }
+        for (int p = 0; p < x.count(0); p++) {
+            all.append("\n").append(p).append(':');
+            for (int what = 0; what <= 14; what++) {
+                all.append(' ').append(x.process(p, what));
+            }
+        }
+        for (int duty = 0; duty < 8; duty++) {
+            all.append(duty == 0 ? "\nduties " : " ").append(x.holder(duty));
+        }
+        for (int i = 0; i < x.count(4); i++) {
+            all.append(i == 0 ? "\nexits " : " ").append(x.exited(i));
+        }
+        for (int i = 0; i < 4; i++) {
+            all.append(i == 0 ? "\nrules " : " ").append(x.rule(i));
+        }
+        return all.toString();
+    }
+
     /** Lets processes come, and exit, under the root until so many have come. */
     static void fillUp(OrphanTree x, int number) {
         while (x.count(0) < number) {

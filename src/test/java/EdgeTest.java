@@ -612,6 +612,21 @@ public final class EdgeTest extends Checks {
         is(x.count(5), 0);
     }
 
+    @Says("each one gets the place of the other one under its supervisor, with all below it")
+    static void exchangeWithAllBelow() {
+        OrphanTree x = tree("process 0 2 0 0;process 1 0 0 0;process 1 1 0 0;process 3 0 0 0;process 0 1 0 0;process 5 1 0 0;"
+            + "process 6 0 0 0;");
+        is(shape(x), "0(1(2 3(4)) 5(6(7)))");
+        is(x.exchange(3, 5), 5);
+        is(shape(x), "0(1(2 5(6(7))) 3(4))");
+        is(x.exchange(6, 4), 3);
+        is(shape(x), "0(1(2 5(4)) 3(6(7)))");
+        x.exit(7, 0);
+        is(x.exchange(6, 2), 0);
+        is(x.process(7, 0), 6);
+        is(x.depth(7), 3);
+    }
+
     @Says("the room and refusals do not matter")
     static void exchangeWithoutRoom() {
         OrphanTree x = tree("deep 1;process 0 1 0 0;process 0 1 0 0;process 1 1 1 0;process 2 0 2 0;refuse 1 2;refuse 2 1;");
@@ -780,6 +795,17 @@ public final class EdgeTest extends Checks {
         is(x.relieve(1), 2);
         supervisors(x, -1, 0, 1, 0, 2);
         is(x.process(1, 2), 0);
+        OrphanTree last = tree("process 0 9 0 0;");
+        fillUp(last, 38);
+        last.spawn(1, 0, 0, 0);
+        last.spawn(1, 0, 0, 0);
+        last.setCapacity(1, 1);
+        is(last.relieve(1), 1);
+        is(last.process(39, 0), 0);
+        is(last.process(38, 0), 1);
+        last.setCapacity(1, 0);
+        is(last.relieve(1), 1);
+        is(last.process(38, 0), 0);
     }
 
     @Says("Forecasts the holder of a duty behind the exit of a process")
@@ -893,6 +919,13 @@ public final class EdgeTest extends Checks {
         is(printed(x, 1, 4), "10:255,3:9,2:10");
         x.read(1);
         is(printed(x, 1, 4), "3:9,2:10");
+        x.readAll(1);
+        for (int code : new int[] {1, 99, 100, 101, 199, 200, 255}) {
+            int p = x.spawn(1, 0, 0, 0);
+            x.exit(p, code);
+            is(printed(x, 1, 4), p + ":" + code);
+            is(x.read(1), 1000 * p + code);
+        }
     }
 
     @Says("Writes something of a process to the output, in place of what it had")
@@ -982,6 +1015,26 @@ public final class EdgeTest extends Checks {
         is(x.errorCode(), 1);
         is(x.errorOffset(), 7);
         is(new OrphanTree().saveState(), 1);
+    }
+
+    @Says("Saves everything but")
+    static void theOrderOfTheExitsIsSaved() {
+        OrphanTree x = tree(CHAIN);
+        x.exit(4, 1);
+        x.exit(3, 2);
+        x.exit(2, 3);
+        x.saveState();
+        for (int i = 0; i < 3; i++) {
+            x.undo();
+        }
+        x.exit(2, 0);
+        x.exit(3, 0);
+        x.exit(4, 0);
+        x.restoreState();
+        is(x.exited(0), 4);
+        is(x.exited(2), 2);
+        is(printed(x, 1, 4), "4:1,3:2,2:3");
+        is(x.read(1), 4001);
     }
 
     @Says("Restores the saved state, which stays saved. Nothing can be undone then")

@@ -335,6 +335,29 @@ public final class SetupTest extends Checks {
         refused("deep{ 1;", 1, 4);
         refused("order a;", 1, 6);
         refused("order z;", 1, 6);
+        refused("deepz 1;", 1, 0);
+        refused("adeep 1;", 1, 0);
+        refused("order oldz;", 1, 6);
+        refused("order aold;", 1, 6);
+    }
+
+    @Says("SYNTAX: a token that cannot stand at its place")
+    static void wordsWithOneOtherLetter() {
+        String[] statements = {"order;", "deep 1;", "root 1 1;", "process 0 1 1 1;", "heir 1 0;", "duty 1 1;", "refuse 1 1;",
+            "will 1 1 0;"};
+        for (String statement : statements) {
+            is(load(new OrphanTree(), ONE + statement) > 0, true);
+            for (int i = 0; Character.isLetter(statement.charAt(i)); i++) {
+                refused(ONE + statement.substring(0, i) + "z" + statement.substring(i + 1), 1, 16);
+                refused(ONE + statement.substring(0, i) + statement.substring(i + 1), 1, 16);
+            }
+        }
+        for (String rule : new String[] {"near", "group", "room", "kin", "old"}) {
+            for (int i = 0; i < rule.length(); i++) {
+                refused("order " + rule.substring(0, i) + "z" + rule.substring(i + 1) + ";", 1, 6);
+                refused("order " + rule.substring(0, i) + rule.substring(i + 1) + ";", 1, 6);
+            }
+        }
     }
 
     @Says("numbers (maximal runs of digits, 1 to 2 of them)")
@@ -511,6 +534,24 @@ public final class SetupTest extends Checks {
         is(x.readShare(), 0.0);
         is(x.mostAdopted(), -1);
         is(x.spawn(0, 0, 0, 0), 3);
+    }
+
+    @Says("A successful load replaces everything")
+    static void nothingOfATextIsLeftInTheNextOne() {
+        String all = "order old;deep 2;root 7 3;" + ONE + ONE + "heir 1 2;duty 0 1;duty 7 2;refuse 1 0;will 1 0 2;";
+        for (String text : new String[] {all, all + "x"}) {
+            OrphanTree x = new OrphanTree();
+            is(load(x, text), text.equals(all) ? 3 : -1);
+            is(load(x, all), 3);
+            is(load(x, text), text.equals(all) ? 3 : -1);
+            is(load(x, ONE + ONE), 3);
+            counts(x, 3, 3, 0, 0, 0, 0, 0, 0, 8, 0, 20);
+            properties(x, 0, -1, 9, 7, 2, 0, 0, 0, 0, -1, 255, -1, 0, 0, -1, 0);
+            properties(x, 1, 0, 2, 2, 0, 0, 0, 1, 0, -1, 0, -1, 0, 0, -1, 0);
+            is(x.rule(0), 0);
+            is(x.holder(0), 0);
+            is(x.holder(7), 0);
+        }
     }
 
     @Says("Returns the number of processes, the root included; -1 if there is an error")

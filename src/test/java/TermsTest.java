@@ -639,6 +639,27 @@ public final class TermsTest extends Checks {
     }
 
     @Says("The latest 10 changes can be undone")
+    static void everyChangeCanBeUndone() {
+        OrphanTree x = tree("order old;root 9 2;process 0 3 1 3;process 0 2 1 0;process 1 1 4 0;process 1 1 5 0;process 3 0 0 0;"
+            + "process 1 0 4 0;refuse 1 2;heir 1 2;duty 5 1;");
+        x.exit(5, 0);
+        x.exit(6, 7);
+        x.setCapacity(1, 1);
+        Call[] changes = {() -> x.spawn(2, 1, 2, 3), () -> x.exit(1, 1), () -> x.exit(3, 0), () -> x.kill(1, 9), () -> x.read(3),
+            () -> x.refuse(1, 4), () -> x.accept(1, 2), () -> x.move(4, 2), () -> x.setCapacity(1, 9), () -> x.setBudget(0, 9),
+            () -> x.setHeir(1, -1), () -> x.give(5, 4), () -> x.prune(1, 0), () -> x.exchange(3, 2), () -> x.readAll(1),
+            () -> x.relieve(1)};
+        String before = asked(x);
+        for (Call change : changes) {
+            is(answer(change) instanceof Class, false);
+            is(x.count(9), 4);
+            is(asked(x).equals(before), false);
+            is(x.undo(), 3);
+            is(asked(x), before);
+        }
+    }
+
+    @Says("The latest 10 changes can be undone")
     static void tenChangesCanBeUndone() {
         OrphanTree x = tree("process 0 0 0 0;");
         for (int i = 1; i <= 9; i++) {
