@@ -551,6 +551,11 @@ public final class SetupTest extends Checks {
             is(x.rule(0), 0);
             is(x.holder(0), 0);
             is(x.holder(7), 0);
+            is(load(x, ""), 1);
+            counts(x, 1, 1, 0, 0, 0, 0, 0, 0, 8, 0, 20);
+            is(x.allRoom(), 9);
+            is(shape(x), "0");
+            is(x.spawn(0, 0, 0, 0), 1);
         }
     }
 
