@@ -410,6 +410,11 @@ public final class EdgeTest extends Checks {
         is(x.count(6), 1);
         is(x.wouldFallBy(1, 0), 0);
         is(x.undo(), 0);
+        OrphanTree y = tree("order old;process 0 9 0 0;process 0 9 0 0;process 2 0 0 0;");
+        is(y.exit(2, 0), 0);
+        is(y.count(5), 1);
+        is(y.wouldFallBy(0, 0), 1);
+        is(y.wouldFallBy(1, 0), 0);
         is(x.wouldFallBy(1, 0), 2);
         is(x.wouldFallBy(0, 0), 0);
         is(x.wouldFallBy(2, 0), 0);
@@ -429,6 +434,41 @@ public final class EdgeTest extends Checks {
         is(x.wouldHave(3, 4, 0), 2);
         x.read(2);
         is(x.wouldHave(3, 2, 0), 2);
+    }
+
+    @Says("Returns the supervisor of process behind the exit (see process, what 0)")
+    static void wouldHaveWithAReplacement() {
+        OrphanTree x = tree("order;root 9 1;process 0 1 0 0;process 1 0 0 0;");
+        is(x.wouldHave(2, 1, 0), 0);
+        is(x.wouldHave(2, 1, 1), 3);
+        is(x.wouldHave(2, 1, 255), 3);
+        fails(BOUNDS, () -> x.wouldHave(3, 1, 1));
+    }
+
+    @Says("Forecasts the height (see height) behind the exit of a process")
+    static void wouldStand() {
+        OrphanTree x = tree("order;root 9 1;process 0 1 0 0;process 1 1 0 0;process 2 0 0 0;");
+        is(x.wouldStand(3, 0), 2);
+        is(x.wouldStand(3, 1), 2);
+        is(x.wouldStand(2, 0), 1);
+        is(x.wouldStand(1, 0), 2);
+        is(x.wouldStand(1, 1), 3);
+        is(x.wouldStand(1, 255), 3);
+        is(tree("process 0 0 0 0;").wouldStand(1, 0), 0);
+        is(chain(39).wouldStand(39, 0), 38);
+        is(x.height(), 3);
+    }
+
+    @Says("Finds the running process, the root left aside, whose exit with an exit code would give the root the most orphans")
+    static void weakestWithReplacements() {
+        OrphanTree x = tree("order;root 9 1;process 0 2 0 0;process 1 1 0 0;process 1 0 0 0;process 2 0 0 0;");
+        is(x.weakest(0), 1);
+        is(x.weakest(1), 2);
+        is(x.weakest(255), 2);
+        x.setBudget(1, 1);
+        is(x.weakest(1), 1);
+        x.setCapacity(2, 0);
+        is(x.weakest(1), 2);
     }
 
     @Says("Returns number of the process, the smallest one on a tie; -1 if the root is alone")
@@ -581,6 +621,9 @@ public final class EdgeTest extends Checks {
         int[] order = {3, 6, 4, 7, 8, 2};
         for (int i = 0; i < order.length; i++) {
             is(x.exited(i), order[i]);
+        }
+        for (int p : order) {
+            is(x.process(p, 10), 3);
         }
         is(shape(x), "0(1 5)");
         is(x.process(1, 7), 0);
@@ -969,6 +1012,17 @@ public final class EdgeTest extends Checks {
         is(x.undo(), 0);
         is(x.undo(), -1);
         counts(x, 5, 5, 0, 0, 0, 0, 0, 0, 8, 0, 20);
+        OrphanTree y = tree("order old;root 9 1;deep 3;process 0 1 0 0;process 0 2 0 0;process 2 0 0 0;process 2 0 0 0;duty 1 2;");
+        is(y.exit(2, 0), 1);
+        is(y.exit(1, 1), 0);
+        counts(y, 6, 4, 0, 2, 2, 3, 1, 1, 7, 2, 3);
+        y.kill(0, 1);
+        is(y.undo(), 2);
+        counts(y, 6, 4, 0, 2, 2, 3, 1, 1, 7, 2, 3);
+        is(y.undo(), 1);
+        counts(y, 5, 4, 0, 1, 1, 2, 1, 0, 7, 1, 3);
+        is(y.undo(), 0);
+        counts(y, 5, 5, 0, 0, 0, 0, 0, 0, 7, 0, 3);
     }
 
     @Says("Undoes the latest change that was not undone")

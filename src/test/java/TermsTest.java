@@ -72,8 +72,10 @@ public final class TermsTest extends Checks {
         properties(x, 2, 0, 9, 9, 0, 0, 0, 9, 9);
         is(x.spawn(0, 0, 0, 0), 3);
         is(x.spawn(0, 9, 9, 9), 4);
+        is(x.spawn(0, 1, 2, 3), 5);
         properties(x, 3, 0, 0, 0, 0, 0, 0, 0, 0);
         properties(x, 4, 0, 9, 9, 0, 0, 0, 9, 9);
+        properties(x, 5, 0, 1, 1, 0, 0, 0, 2, 3);
         for (int wrong : new int[] {-1, 10, Integer.MIN_VALUE, Integer.MAX_VALUE}) {
             fails(ARGUMENT, () -> x.spawn(0, wrong, 0, 0));
             fails(ARGUMENT, () -> x.spawn(0, 0, wrong, 0));
@@ -378,6 +380,23 @@ public final class TermsTest extends Checks {
         is(nine.adopter(3), 2);
     }
 
+    @Says("has room, does not refuse the group of o")
+    static void everyRuleLooksAtRoomAndRefusals() {
+        for (String rule : new String[] {"near", "group", "room", "kin", "old"}) {
+            int c = rule.equals("near") ? 1 : 4;
+            String text = "order " + rule + ";process 0 " + (c == 1 ? 3 : 2) + " 3 0;process 1 1 5 0;process 2 0 3 0;process 1 "
+                + (c == 4 ? 1 : 0) + " 3 0;";
+            OrphanTree x = tree(text);
+            is(x.adopter(3), c);
+            x.setCapacity(c, x.process(c, 3));
+            is(x.adopter(3), 0);
+            is(tree(text + "refuse " + c + " 5;refuse 2 3;refuse 3 3;").adopter(3), c);
+            is(tree(text + "refuse " + c + " 3;").adopter(3), 0);
+            is(tree(text + "deep 2;").adopter(3), c == 1 ? 1 : 0);
+            is(tree(text + "deep 1;").adopter(3), 0);
+        }
+    }
+
     @Says("and has fewer processes above it than the setting deep")
     static void theSettingDeep() {
         is(tree("order old;deep 1;" + PAIR).adopter(3), 0);
@@ -555,13 +574,16 @@ public final class TermsTest extends Checks {
         OrphanTree x = tree(text);
         is(x.kill(1, 0), 2);
         is(x.process(2, 0), 4);
+        is(x.process(2, 12), 1);
+        is(x.count(5), 1);
         OrphanTree one = tree(text);
         is(one.exit(1, 0), 0);
         is(one.process(2, 0), 3);
         OrphanTree last = tree("order old;process 0 1 1 0;process 1 0 0 0;process 0 1 1 0;");
         is(last.kill(1, 0), 2);
         is(last.process(2, 0), 0);
-        is(last.count(6), 1);
+        is(last.process(2, 12), 1);
+        counts(last, 4, 2, 0, 2, 2, 1, 1);
     }
 
     @Says("nor inherits (but for step 3: to s)")
