@@ -6,6 +6,7 @@ import java.nio.charset.StandardCharsets;
 import java.util.Arrays;
 import java.util.Comparator;
 import java.util.NoSuchElementException;
+import java.util.function.Function;
 
 /** What the tests with answers worked out by hand have in common. */
 abstract class Checks {
@@ -21,6 +22,10 @@ abstract class Checks {
 
     interface Call {
         Object answer();
+    }
+
+    /** A call that can be tried on several objects. */
+    interface Ask extends Function<OrphanTree, Object> {
     }
 
     /** A test of one sentence of the document, which stands in it word for word. */
@@ -158,7 +163,8 @@ abstract class Checks {
         for (int what = 0; what <= 10; what++) {
             all.append(x.count(what)).append(' ');
         }
-        for (int p = 0; p < x.count(0); p++) {
+        int come = x.count(0);
+        for (int p = 0; p < come; p++) {
             all.append("\n").append(p).append(':');
             for (int what = 0; what <= 14; what++) {
                 all.append(' ').append(x.process(p, what));
@@ -167,7 +173,8 @@ abstract class Checks {
         for (int duty = 0; duty < 8; duty++) {
             all.append(duty == 0 ? "\nduties " : " ").append(x.holder(duty));
         }
-        for (int i = 0; i < x.count(4); i++) {
+        int exits = x.count(4);
+        for (int i = 0; i < exits; i++) {
             all.append(i == 0 ? "\nexits " : " ").append(x.exited(i));
         }
         for (int i = 0; i < 4; i++) {

@@ -329,6 +329,24 @@ public final class EdgeTest extends Checks {
         is(x.process(1, 3), 2);
     }
 
+    @Says("0 to 9; it may be less than the number of its running children")
+    static void capacityBelowTheChildren() {
+        OrphanTree x = tree(CHAIN);
+        for (int capacity = 2; capacity >= 0; capacity--) {
+            x.setCapacity(1, capacity);
+            is(x.process(1, 1), capacity);
+            is(x.process(1, 2), 0);
+            is(x.process(1, 3), 2);
+            fails(STATE, () -> x.spawn(1, 0, 0, 0));
+        }
+        x.exit(4, 0);
+        is(x.process(1, 2), 0);
+        x.setCapacity(1, 1);
+        fails(STATE, () -> x.spawn(1, 0, 0, 0));
+        x.setCapacity(1, 2);
+        is(x.spawn(1, 0, 0, 0), 5);
+    }
+
     @Says("Returns the budget before")
     static void setBudget() {
         OrphanTree x = tree("root 9 3;process 0 0 0 9;");
@@ -640,6 +658,22 @@ public final class EdgeTest extends Checks {
         is(full.count(0), 40);
     }
 
+    @Says("Lets all processes below a process exit, the process itself not")
+    static void pruneLeavesTheProcess() {
+        OrphanTree x = tree(CHAIN);
+        is(x.prune(2, 0), 1);
+        is(shape(x), "0(1(2 4))");
+        is(x.process(3, 0), 2);
+        is(x.prune(1, 255), 2);
+        is(printed(x, 1, 4), "3:0,4:255,2:255");
+        is(printed(x, 2, 2), "2");
+        is(x.prune(0, 0), 1);
+        is(x.process(0, 5), 0);
+        is(x.prune(0, 0), 0);
+        is(x.count(9), 4);
+        is(chain(39).prune(0, 9), 39);
+    }
+
     @Says("Returns how many running processes have another depth then")
     static void exchange() {
         OrphanTree x = tree(CHAIN + "process 0 1 0 0;process 5 0 0 0;");
@@ -694,6 +728,16 @@ public final class EdgeTest extends Checks {
         is(x.readAll(1), 9 * 255);
         is(x.readAll(1), 0);
         is(x.count(3), 9);
+    }
+
+    @Says("This is a change, also if there are none")
+    static void readingNothingIsAChange() {
+        OrphanTree x = tree(CHAIN);
+        is(x.readAll(1), 0);
+        is(x.count(9), 1);
+        is(x.readAll(0), 0);
+        is(x.count(9), 2);
+        is(x.undo(), 1);
     }
 
     @Says("Returns the number of zombies; 0 if it is not running")
@@ -849,6 +893,17 @@ public final class EdgeTest extends Checks {
         last.setCapacity(1, 0);
         is(last.relieve(1), 1);
         is(last.process(38, 0), 0);
+    }
+
+    @Says("This is a change, also if none is given away")
+    static void relievingOfNoneIsAChange() {
+        OrphanTree x = tree(CHAIN);
+        x.setCapacity(1, 2);
+        is(x.relieve(1), 0);
+        is(x.relieve(3), 0);
+        is(x.count(9), 3);
+        is(x.undo(), 2);
+        is(shape(x), "0(1(2(3) 4))");
     }
 
     @Says("Forecasts the holder of a duty behind the exit of a process")

@@ -12,9 +12,6 @@ public final class RefusedTest extends Checks {
     private static final int NONE = 7;
     private static final int[] NO_PROCESS = {NONE, -1, 40, Integer.MIN_VALUE, Integer.MAX_VALUE};
 
-    private interface Ask extends Function<OrphanTree, Object> {
-    }
-
     private RefusedTest() {
     }
 
@@ -178,8 +175,15 @@ public final class RefusedTest extends Checks {
     static void numbersOfDuties() {
         ranged(7, duty -> x -> x.holder(duty));
         ranged(7, duty -> x -> x.give(duty, ONE));
-        ranged(7, duty -> x -> x.wouldHold(duty, ONE, 0));
         ranged(7, duty -> x -> x.dutyLife(duty));
+    }
+
+    @Says("if duty or code is out of range")
+    static void numbersOfDutiesAndCodes() {
+        ranged(7, duty -> x -> x.wouldHold(duty, ONE, 0));
+        ranged(255, code -> x -> x.wouldHold(1, ONE, code));
+        leavesAll(x -> x.wouldHold(8, ONE, 256), ARGUMENT);
+        leavesAll(x -> x.wouldHold(-1, ONE, -1), ARGUMENT);
     }
 
     @Says("if group or code is out of range")
@@ -187,6 +191,15 @@ public final class RefusedTest extends Checks {
         ranged(9, group -> x -> x.kill(group, 0));
         ranged(9, group -> x -> x.wouldFallBy(group, 0));
         ranged(9, group -> x -> x.wouldRun(group, 0));
+        ranged(255, code -> x -> x.kill(1, code));
+        ranged(255, code -> x -> x.wouldFallBy(1, code));
+        ranged(255, code -> x -> x.wouldRun(1, code));
+        leavesAll(x -> x.kill(10, 256), ARGUMENT);
+        leavesAll(x -> x.kill(-1, -1), ARGUMENT);
+    }
+
+    @Says("if group is out of range")
+    static void numbersOfGroupsAlone() {
         ranged(9, group -> x -> x.roomiest(group));
         ranged(9, group -> x -> x.ofGroup(group));
         ranged(9, group -> x -> x.refuse(ONE, group));
@@ -196,15 +209,11 @@ public final class RefusedTest extends Checks {
     @Says("if code is out of range")
     static void numbersOfCodes() {
         ranged(255, code -> x -> x.exit(ONE, code));
-        ranged(255, code -> x -> x.kill(1, code));
         ranged(255, code -> x -> x.wouldFall(ONE, code));
         ranged(255, code -> x -> x.wouldStand(ONE, code));
         ranged(255, code -> x -> x.wouldHave(ONE, TWO, code));
-        ranged(255, code -> x -> x.wouldFallBy(1, code));
         ranged(255, code -> x -> x.weakest(code));
         ranged(255, code -> x -> x.prune(ONE, code));
-        ranged(255, code -> x -> x.wouldRun(1, code));
-        ranged(255, code -> x -> x.wouldHold(1, ONE, code));
     }
 
     @Says("if capacity, group or budget is out of range")
@@ -212,8 +221,18 @@ public final class RefusedTest extends Checks {
         ranged(9, capacity -> x -> x.spawn(ONE, capacity, 0, 0));
         ranged(9, group -> x -> x.spawn(ONE, 0, group, 0));
         ranged(9, budget -> x -> x.spawn(ONE, 0, 0, budget));
+    }
+
+    @Says("if capacity is out of range")
+    static void numbersOfCapacities() {
         ranged(9, capacity -> x -> x.setCapacity(ONE, capacity));
+        ranged(9, capacity -> x -> x.setCapacity(ROOT, capacity));
+    }
+
+    @Says("if budget is out of range")
+    static void numbersOfBudgets() {
         ranged(9, budget -> x -> x.setBudget(ONE, budget));
+        ranged(9, budget -> x -> x.setBudget(ROOT, budget));
     }
 
     @Says("if both are the same")
@@ -291,11 +310,21 @@ public final class RefusedTest extends Checks {
             leavesAll(x -> x.heirNow(p), STATE);
             leavesAll(x -> x.wouldFall(p, 0), STATE);
             leavesAll(x -> x.wouldStand(p, 0), STATE);
-            leavesAll(x -> x.wouldHave(ONE, p, 0), STATE);
             leavesAll(x -> x.adopters(p), STATE);
             leavesAll(x -> x.betterCode(p), STATE);
             leavesAll(x -> x.relieve(p), STATE);
-            leavesAll(x -> x.wouldHold(0, p, 0), STATE);
+        }
+    }
+
+    @Says("if exits is the root, or not running")
+    static void neitherTheRootNorOneThatIsNotRunningExits() {
+        for (int p : new int[] {ROOT, ZOMBIE, GONE}) {
+            for (int code : new int[] {0, 255}) {
+                leavesAll(x -> x.wouldHave(ONE, p, code), STATE);
+                leavesAll(x -> x.wouldHave(p, p, code), STATE);
+                leavesAll(x -> x.wouldHold(0, p, code), STATE);
+                leavesAll(x -> x.wouldHold(7, p, code), STATE);
+            }
         }
     }
 
@@ -319,13 +348,18 @@ public final class RefusedTest extends Checks {
             int w = what;
             leavesAll(x -> x.print(GONE, w), STATE);
         }
+        asks(x -> x.depth(ZOMBIE));
+    }
+
+    @Says("if one of both is gone")
+    static void noneOfBothIsGone() {
         leavesAll(x -> x.meet(GONE, ONE), STATE);
         leavesAll(x -> x.meet(ONE, GONE), STATE);
         leavesAll(x -> x.meet(GONE, GONE), STATE);
         leavesAll(x -> x.apart(GONE, ONE), STATE);
         leavesAll(x -> x.apart(ONE, GONE), STATE);
         leavesAll(x -> x.apart(GONE, GONE), STATE);
-        asks(x -> x.depth(ZOMBIE) + x.meet(ZOMBIE, ZOMBIE) + x.apart(ZOMBIE, ONE));
+        asks(x -> x.meet(ZOMBIE, ZOMBIE) + x.meet(ONE, ZOMBIE) + x.apart(ZOMBIE, ONE) + x.apart(ZOMBIE, ZOMBIE));
     }
 
     @Says("if the supervisor is not running or has no room, or there are 40 processes")
@@ -399,6 +433,27 @@ public final class RefusedTest extends Checks {
         is(x.undo(), 0);
         is(x.process(1, 7), 1);
         fails(STATE, x::restoreState);
+    }
+
+    @Says("A method that throws changes nothing")
+    static void allThatThrowsInOneObject() {
+        OrphanTree x = busy();
+        Call[] calls = {() -> x.count(11), () -> x.process(ONE, 15), () -> x.holder(8), () -> x.depth(GONE),
+            () -> x.isAbove(NONE, ONE), () -> x.meet(ONE, GONE), () -> x.below(NONE), () -> x.walked(5),
+            () -> x.spawn(FULL, 1, 1, 1), () -> x.exit(ROOT, 1), () -> x.kill(1, 256), () -> x.read(ONE),
+            () -> x.refuse(ROOT, 1), () -> x.accept(ZOMBIE, 1), () -> x.move(ONE, TWO), () -> x.setCapacity(ONE, 10),
+            () -> x.setBudget(ONE, 10), () -> x.setHeir(ONE, ONE), () -> x.give(3, ZOMBIE), () -> x.adopter(ROOT),
+            () -> x.heirNow(ROOT), () -> x.wouldFall(ONE, 256), () -> x.wouldStand(ONE, 256), () -> x.wouldHave(ONE, ROOT, 1),
+            () -> x.wouldFallBy(10, 1), () -> x.weakest(256), () -> x.roomiest(10), () -> x.ofGroup(10),
+            () -> x.nextTestament(NONE), () -> x.exited(2), () -> x.prune(ONE, 256), () -> x.exchange(ONE, TWO),
+            () -> x.readAll(ZOMBIE), () -> x.testamentsBelow(NONE), () -> x.roomBelow(NONE), () -> x.adopters(ROOT),
+            () -> x.betterCode(ROOT), () -> x.wouldRun(10, 1), () -> x.apart(GONE, ONE), () -> x.relieve(ROOT),
+            () -> x.wouldHold(8, ONE, 1), () -> x.dutyLife(8), () -> x.heaviest(NONE), () -> x.groupsBelow(NONE),
+            () -> x.strangers(NONE), () -> x.print(ONE, 5)};
+        for (Call call : calls) {
+            is(answer(call) instanceof Class, true);
+        }
+        sameLines(everything(x, 20), everything(busy(), 20));
     }
 
     // Several exceptions.

@@ -326,6 +326,26 @@ public final class TermsTest extends Checks {
         is(gone.process(1, 4), 1);
     }
 
+    @Says("A testament is read by the supervisor of a zombie, which is its reader; the zombie is gone then")
+    static void theReaderOfATestament() {
+        OrphanTree x = tree(CHAIN);
+        x.exit(3, 5);
+        is(x.process(3, 5), 1);
+        fails(ELEMENT, () -> x.read(1));
+        is(x.read(2), 3005);
+        is(x.process(3, 5), 2);
+        is(x.process(3, 10), 5);
+        fails(ELEMENT, () -> x.read(2));
+        x.exit(2, 6);
+        is(x.read(1), 2006);
+        is(x.process(2, 0), 1);
+        x.exit(1, 7);
+        is(x.process(1, 5), 2);
+        is(x.process(1, 0), 0);
+        is(x.process(3, 0), 2);
+        is(x.readShare(), 1.0);
+    }
+
     @Says("Several zombies of a supervisor are read in the order in which they exited")
     static void zombiesAreReadInTheOrderOfTheirExits() {
         OrphanTree x = tree(CHAIN);
@@ -662,18 +682,18 @@ public final class TermsTest extends Checks {
 
     @Says("The latest 10 changes can be undone")
     static void everyChangeCanBeUndone() {
-        OrphanTree x = tree("order old;root 9 2;process 0 3 1 3;process 0 2 1 0;process 1 1 4 0;process 1 1 5 0;process 3 0 0 0;"
-            + "process 1 0 4 0;refuse 1 2;heir 1 2;duty 5 1;");
-        x.exit(5, 0);
-        x.exit(6, 7);
-        x.setCapacity(1, 1);
-        Call[] changes = {() -> x.spawn(2, 1, 2, 3), () -> x.exit(1, 1), () -> x.exit(3, 0), () -> x.kill(1, 9), () -> x.read(3),
-            () -> x.refuse(1, 4), () -> x.accept(1, 2), () -> x.move(4, 2), () -> x.setCapacity(1, 9), () -> x.setBudget(0, 9),
-            () -> x.setHeir(1, -1), () -> x.give(5, 4), () -> x.prune(1, 0), () -> x.exchange(3, 2), () -> x.readAll(1),
-            () -> x.relieve(1)};
-        String before = asked(x);
-        for (Call change : changes) {
-            is(answer(change) instanceof Class, false);
+        Ask[] changes = {x -> x.spawn(2, 1, 2, 3), x -> x.exit(1, 1), x -> x.exit(3, 0), x -> x.kill(1, 9), x -> x.read(3),
+            x -> x.refuse(1, 4), x -> x.accept(1, 2), x -> x.move(4, 2), x -> x.setCapacity(1, 9), x -> x.setBudget(0, 9),
+            x -> x.setHeir(1, -1), x -> x.give(5, 4), x -> x.prune(1, 0), x -> x.exchange(3, 2), x -> x.readAll(1),
+            x -> x.relieve(1)};
+        for (Ask change : changes) {
+            OrphanTree x = tree("order old;root 9 2;process 0 3 1 3;process 0 2 1 0;process 1 1 4 0;process 1 1 5 0;"
+                + "process 3 0 0 0;process 1 0 4 0;refuse 1 2;heir 1 2;duty 5 1;");
+            x.exit(5, 0);
+            x.exit(6, 7);
+            x.setCapacity(1, 1);
+            String before = asked(x);
+            is(answer(() -> change.apply(x)) instanceof Class, false);
             is(x.count(9), 4);
             is(asked(x).equals(before), false);
             is(x.undo(), 3);
