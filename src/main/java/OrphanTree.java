@@ -1146,7 +1146,7 @@ public final class OrphanTree {
             return null;
         }
 
-        /** The root never can, for every rule leaves it aside; leaving the former supervisor aside is up to the caller. */
+        /** The root never can, for every rule leaves it aside; the caller leaves the former supervisor aside. */
         boolean canAdopt(Proc p, Proc orphan) {
             if (!p.isMortal() || p.doomed || p == orphan || p.refuses(orphan.group) || p.room() == 0) {
                 return false;
